@@ -870,10 +870,12 @@ public final class TwoCamps {
 
     /** A TEXT laid out to be run: NUMBERS and NAMES, and behind them the TOKENS that join them. */
     private static final class Text {
-        // a TOKEN is a NUMBER as it stands, else below 0: one of these, or a SIGN's byte negated
+        // a TOKEN is a NUMBER as it stands, else one of these; of a SIGN its byte, below 0
         static final int END = -1, NO_TOKEN = -2;
         static final int COST = -3, LET = -4, OR = -5, AND = -6, NOT = -7, NEGATE = -8;
         static final int STRENGTH = -9, HATE = -10, KIN = -11, FIXED = -12, LEAST = -13, MOST = -14;
+        static final int OPENS = -40, CLOSES = -41, TIMES = -42, PLUS = -43, MINUS = -45;
+        static final int SEMICOLON = -59, LESS = -60, EQUAL = -61;
 
         final int[] tokens = new int[TAPE_SIZE];
         int size;
@@ -928,11 +930,11 @@ public final class TwoCamps {
             layTokens();
             at = 0;
             token = tokens[0];
-            if (!skip(Text.COST) || !readOr(0) || !skip(-';')) {
+            if (!skip(Text.COST) || !readOr(0) || !skip(Text.SEMICOLON)) {
                 return false;
             }
             read.endCost();
-            return skip(Text.LET) && readOr(0) && skip(-';') && token == Text.END;
+            return skip(Text.LET) && readOr(0) && skip(Text.SEMICOLON) && token == Text.END;
         }
 
         /** Where the TOKEN begins that is looked at. */
@@ -1056,7 +1058,7 @@ public final class TwoCamps {
         private boolean readComparison(int open) {
             boolean fits = readSum(open);
             int sign = token;
-            if (fits && (sign == -'<' || sign == -'=')) {
+            if (fits && (sign == Text.LESS || sign == Text.EQUAL)) {
                 fits = skip(sign) && readSum(open);
                 read.add(sign);
             }
@@ -1065,7 +1067,7 @@ public final class TwoCamps {
 
         private boolean readSum(int open) {
             boolean fits = readTerm(open);
-            for (int i = 0; i < TAPE_SIZE && fits && (token == -'+' || token == -'-'); i++) {
+            for (int i = 0; i < TAPE_SIZE && fits && (token == Text.PLUS || token == Text.MINUS); i++) {
                 int sign = token;
                 fits = skip(sign) && readTerm(open);
                 read.add(sign);
@@ -1075,9 +1077,9 @@ public final class TwoCamps {
 
         private boolean readTerm(int open) {
             boolean fits = readOne(open);
-            for (int i = 0; i < TAPE_SIZE && fits && token == -'*'; i++) {
-                fits = skip(-'*') && readOne(open);
-                read.add(-'*');
+            for (int i = 0; i < TAPE_SIZE && fits && token == Text.TIMES; i++) {
+                fits = skip(Text.TIMES) && readOne(open);
+                read.add(Text.TIMES);
             }
             return fits;
         }
@@ -1090,10 +1092,10 @@ public final class TwoCamps {
             if (open >= MOST_OPEN) {
                 return false;
             }
-            if (token == -'(') {
-                return skip(-'(') && readOr(open + 1) && skip(-')');
+            if (token == Text.OPENS) {
+                return skip(Text.OPENS) && readOr(open + 1) && skip(Text.CLOSES);
             }
-            boolean fits = skip(-'-') && readOne(open + 1);
+            boolean fits = skip(Text.MINUS) && readOne(open + 1);
             read.add(Text.NEGATE);
             return fits;
         }
@@ -1193,11 +1195,11 @@ public final class TwoCamps {
 
         private static int joined(int token, int left, int right) {
             switch (token) {
-                case -'*': return left * right;
-                case -'+': return left + right;
-                case -'-': return left - right;
-                case -'<': return left < right ? 1 : 0;
-                case -'=': return left == right ? 1 : 0;
+                case Text.TIMES: return left * right;
+                case Text.PLUS: return left + right;
+                case Text.MINUS: return left - right;
+                case Text.LESS: return left < right ? 1 : 0;
+                case Text.EQUAL: return left == right ? 1 : 0;
                 case Text.AND: return left != 0 && right != 0 ? 1 : 0;
                 default: return left != 0 || right != 0 ? 1 : 0;
             }

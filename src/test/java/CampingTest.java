@@ -202,6 +202,13 @@ public final class CampingTest {
         check.due("15: same(" + a + ", " + b + ")", x.same(a, b), due);
       }
     }
+    TwoCamps y = Check.people(2);
+    Check.camping(y, 0, ASIDE, 0);
+    Check.camping(y, 0, 2, 1);
+    Check.camping(y, 0, 1, ASIDE);
+    check.due("15: aside is no camp, a", y.same(0, 1), 0);
+    check.due("15: aside is no camp, b", y.same(1, 2), 0);
+    check.due("15: aside is no camp, both", y.same(0, 2), 0);
     int[][] bad = {{-1, 0}, {0, -1}, {10, 0}, {0, 10}, {HIGH, LOW}, {0, HIGH}, {LOW, 0}};
     for (int[] c : bad) {
       check.due("15: same(" + c[0] + ", " + c[1] + ")", x.same(c[0], c[1]), -2);

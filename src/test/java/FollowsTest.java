@@ -110,6 +110,8 @@ public final class FollowsTest {
     check.due("30: by e", ring.bring(1, 3), 16);
     check.due("30: not even by all others", ring.bring(0, 4), -1);
     check.due("30: not even by all others", ring.bring(2, 4), -1);
+    TwoCamps fewer = Check.told(5, "e+b1;b-c1;c+d1;d+e2;");
+    check.due("30: e alone, though b and c would do and are less as bits", fewer.bring(0, 3), 16);
     // bound by the least sum alone, told at that: a - b or a + d is WRONG
     TwoCamps sum = Check.told(5, "a-b1;d+a1;c+e2;d+b2;");
     check.due("30: d tells b, e tells c", sum.bring(1, 2), 8 | 16);
@@ -147,6 +149,11 @@ public final class FollowsTest {
     check.due("32: how many FEELINGS", x.count(1), 2);
     check.due("32: no FEELING more", x.between(0, 2), -1);
     check.due("32: no such FEELING", x.felt(2, 0), -5);
+    x.feel(3, 2, 1, 1, 0);
+    check.due("32: one of who came", x.between(2, 3), 2);
+    x.back();
+    check.due("32: it is gone", x.between(2, 3), -1);
+    check.due("32: it is gone", x.between(3, 2), -1);
     int[][] rows = {{0, 1, 1, 5, 1, 0, 1, 1, 0}, {1, 2, -1, 6, 0, 1, 1, 1, 0}};
     for (int f = 0; f < 2; f++) {
       for (int what = 0; what < 9; what++) {

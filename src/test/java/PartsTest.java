@@ -36,6 +36,9 @@ public final class PartsTest {
     check.due("24: a ring", Check.told(4, "a+b1;b-c1;c+d1;d-a1;").doors(), 0);
     check.due("24: a star", Check.told(5, "e+b1;e-c1;e+d1;e-a1;").doors(), 16);
     check.due("24: two rings by one", Check.told(6, "a+b1;b+c1;c+a1;c+d1;d+e1;e+c1;").doors(), 4);
+    check.due("24: beside one who is alone", Check.told(4, "b+c1;c+d1;").doors(), 4);
+    check.due("24: two beside one who is alone", Check.told(3, "b+c1;").doors(), 0);
+    check.due("24: PERSON 0", Check.told(3, "b+a1;a-c1;").doors(), 1);
     check.due("24: of each PART", Check.told(9, "a+b1;b+c1;d+e1;e+f1;f+d1;g+i1;i+h1;").doors(), 2 | 256);
   }
 

@@ -24,6 +24,7 @@ public final class PeaceTest {
     check.due("16: three hatreds", Check.told(3, "a-b1;b-c1;c-a1;").peace(), -1);
     check.due("16: one hatred", Check.told(4, "a+b1;b+c1;c+d1;a-d1;").peace(), -1);
     check.due("16: not in one PART", Check.told(9, "a-b1;g+h1;h+i1;i-g1;").peace(), -1);
+    check.due("16: the first told is the one WRONG", Check.told(4, "c+d1;a+c1;a-d1;").peace(), -1);
     check.due("16: told the other way round", Check.told(4, "d-c1;c+b1;b-a1;").peace(), 6);
     TwoCamps x = Check.told(9, "a-i9!;h-i1;");
     check.due("16: FIXED ones are as others", x.peace(), 1 << 8);
@@ -52,6 +53,14 @@ public final class PeaceTest {
     // a ring of 4 from a on, one of 3 from e on
     ring("a-b1;b+c1;c+d1;d+a1;e+f1;f+g1;g-e1;", 7, 4, 5, 6);
     ring("a+b1;b+c1;c+d1;d+e1;e+f1;f+g1;g+h1;h+i1;i-a1;", 9, 0, 1, 2, 3, 4, 5, 6, 7, 8);
+    TwoCamps x = Check.told(4, "a+b1;b+c1;a-c1;c+d1;d+a1;");
+    check.due("17: a RING", x.ring(-1), 3);
+    x.feel(0, 2, 1, 1, 0);
+    check.due("17: it is gone", x.ring(-1), -1);
+    check.due("17: it is gone", x.ring(0), -1);
+    x.feel(1, 2, -1, 1, 0);
+    x.feel(2, 3, -1, 1, 0);
+    check.due("17: another one", x.ring(2), 2);
     // the even ring of 3 is no RING
     ring("a-b1;b-c1;a+c1;c+d1;d+e1;e-a1;", 5, 0, 2, 3, 4);
   }
@@ -106,7 +115,9 @@ public final class PeaceTest {
     check.due("19: the last of 9", y.all(255), 510);
     check.due("19: the 77th of 9", y.all(77), 154);
     check.due("19: past the last of 9", y.all(256), -1);
-    TwoCamps none = Check.told(3, "a-b5!;b-c5!;c-a5!;");
+    TwoCamps none = Check.told(3, "a-b5!;b-c5!;c-a5;");
+    check.due("19: one", none.all(-1), 1);
+    none.feel(0, 2, -1, 5, 1);
     check.due("19: none, how many", none.all(-1), 0);
     check.due("19: none", none.all(0), -1);
     TwoCamps one = Check.people(1);
@@ -124,6 +135,7 @@ public final class PeaceTest {
       check.due("20: together(" + c[0] + ", " + c[1] + ")", x.together(c[0], c[1]), c[2]);
       check.due("20: together(" + c[1] + ", " + c[0] + ")", x.together(c[1], c[0]), c[2]);
     }
+    check.due("20: in one of three", Check.told(3, "a-b5;b-c5;c-a5;").together(0, 2), 1);
     TwoCamps y = Check.told(4, "a-b5;b-c1;c-d7;");
     check.due("20: in none", y.together(0, 1), 0);
     check.due("20: in none", y.together(3, 0), 0);
@@ -152,6 +164,7 @@ public final class PeaceTest {
     TwoCamps y = Check.told(5, "a-b1;b-c1;c-a1;c-d1;d-e1;e-c1;");
     y.set(0, 2, 99);
     check.due("21: the fewest, at any PRICE", y.aside(), 4);
+    check.due("21: the fewest, if greater as bits", Check.told(5, "a-c1;c-e1;e-a1;b-d1;d-e1;e-b1;").aside(), 16);
     TwoCamps all = Check.people(9);
     for (int a = 0; a < 9; a++) {
       all.set(0, a, a == 3 || a == 7 ? 9 : 8);

@@ -10,6 +10,7 @@ public final class TapeTest {
     promise9Faults();
     promise9Open();
     promise9Values();
+    promise9Long();
     promise9Full();
     promise10();
     check.end("TapeTest");
@@ -68,7 +69,7 @@ public final class TapeTest {
 
   private static void promise8Faults() {
     Object[][] rows = {{"", 0}, {"a", 1}, {"a+", 2}, {"a+b", 3}, {"a+b5", 4}, {"a+b55", 5}, {"a+b5k", 5}, {"a+b5k!", 6},
-        {"a+b5;a", 6}, {";", 0}, {"d+a5;", 0}, {"A+b5;", 0}, {"5+b5;", 0}, {"`+b5;", 0}, {"a=b5;", 1}, {"ab5;", 1},
+        {"a+b5;a", 6}, {";", 0}, {"d+a5;", 0}, {"A+b5;", 0}, {"5+b5;", 0}, {"+b5;", 0}, {"a+5;", 2}, {"a-", 2}, {"`+b5;", 0}, {"a=b5;", 1}, {"ab5;", 1},
         {"a+a5;", 2}, {"a+d5;", 2}, {"a+;", 2}, {"a++b5;", 2}, {"a+b;", 3}, {"a+bk;", 3}, {"a+b-5;", 3}, {"a+b0;", 4},
         {"a+b00;", 4}, {"a+b0k;", 4}, {"a+b0", 4}, {"a+b015;", 5}, {"a+b123;", 5}, {"a+b100;", 5}, {"a+b5!k;", 5},
         {"a+b5kk;", 5}, {"a+b5!!;", 5}, {"a+b5K;", 4}, {"a+b5k! ;", 6}, {" a+b5;", 0}, {"a +b5;", 1}, {"a+b5; ", 5},
@@ -124,7 +125,8 @@ public final class TapeTest {
         "cost 1^not 2;", "cost 1 or ^or 2;", "cost 1 or ^and 2;", "cost ^or 2;", "cost 1 <^= 2;", "cost 1^?2;", "cost ^+1;",
         "cost 1*^*2;", "cost ^12345;let 1;", "cost 1+^00001;let 1;", "cost 1 ^12345;let 1;",
         "cost 1;let^_1;", "cost 1^\t;", "cost 1^\r;", "cost 1^\u00e9;", "cost ^\u0000;",
-        "cost ^!", "cost 1^,", "cost ^strengt h;", "cost 1^:", "cost 1^>2;", "cost 1^/2;", "cost ^notkin;"};
+        "cost ^!", "cost ^kinz;", "cost ^zkin;", "cost 1;let 1;^?", "cost 1;let 1; ^12345", "cost 1;let 1;^kinn", "cost 1 ^let 1;let 1;",
+        "cost 1;^or 1;", "cost 1;^and 1;", "cost 1;^not 1;", "cost 1 ^cost 1;let 1;", "^not 1;", "^or", "cost 1^,", "cost ^strengt h;", "cost 1^:", "cost 1^>2;", "cost 1^/2;", "cost ^notkin;"};
     for (String text : texts) {
       int place = text.indexOf('^');
       fault(text.substring(0, place) + text.substring(place + 1), place);
@@ -186,6 +188,33 @@ public final class TapeTest {
     check.due("9: each of its own, let", x.felt(1, 7), 1);
     check.due("9: each of its own, cost", x.felt(0, 6), 175);
     check.due("9: each of its own, let", x.felt(0, 7), 1);
+    Check.text(x, "cost hate*10+kin*100;let 1;");
+    x.force(2);
+    check.due("9: a hatred among KIN", x.felt(0, 6), 110);
+    check.due("9: neither", x.felt(1, 6), 0);
+  }
+
+  private static void promise9Long() {
+    TwoCamps x = Check.told(2, "a+b50;");
+    StringBuilder long160 = new StringBuilder("cost 1");
+    while (long160.length() < 151) {
+      long160.append("+1");
+    }
+    long160.append(";let 1;");
+    while (long160.length() < 160) {
+      long160.insert(5, " ");
+    }
+    for (int i = 0; i < 4; i++) {
+      check.due("9: a FAULT at the end of a long one", Check.text(x, long160.substring(0, 159) + "+"), -260);
+    }
+    check.due("9: a long one", Check.text(x, long160.toString()), 1);
+    x.force(1);
+    check.due("9: a long one's cost", x.felt(0, 6), 74);
+    check.due("9: blanks alone", Check.text(x, " \n".repeat(80)), -260);
+    check.due("9: a TEXT behind many blanks", Check.text(x, " ".repeat(144) + "cost 5;let 0;  \n"), 2);
+    x.force(2);
+    check.due("9: its cost", x.felt(0, 6), 5);
+    check.due("9: its let", x.felt(0, 7), 0);
   }
 
   private static void promise9Full() {
