@@ -1505,7 +1505,7 @@ public final class TwoCamps {
             sum = NONE;
             size = 0;
             // by twos: PERSON 0 is in camp 0
-            for (int bits = 0; bits < 1 << people.size; bits += 2) {
+            for (int bits = 0; bits < pastCampings(); bits += 2) {
                 int here = sumOf(bits);
                 if (here != NONE && (sum == NONE || here < sum)) {
                     sum = here;
@@ -1516,6 +1516,12 @@ public final class TwoCamps {
                     size++;
                 }
             }
+        }
+
+        /** The bits past those of all campings of all PEOPLE into two camps. */
+        private int pastCampings() {
+            // with nobody there is no PERSON 0 to be in camp 0, and so no camping
+            return people.size == 0 ? 0 : 1 << people.size;
         }
 
         /** What is WRONG in two camps costs so much together; NONE: something is that can't be. */
@@ -1561,7 +1567,7 @@ public final class TwoCamps {
 
         private int leastSumWith(int feeling, boolean wrong) {
             int found = NONE;
-            for (int bits = 0; bits < 1 << people.size; bits += 2) {
+            for (int bits = 0; bits < pastCampings(); bits += 2) {
                 if (feelings.isWrongIn(feeling, bits) == wrong) {
                     int here = sumOf(bits);
                     if (here != NONE && (found == NONE || here < found)) {

@@ -467,9 +467,9 @@ final class Oracle {
     return sum;
   }
 
-  /** By bits; -1 also for those with PERSON 0 in camp 1. */
+  /** By bits; -1 also for those with PERSON 0 in camp 1. None with nobody there: PERSON 0 can't be in camp 0. */
   private int[] sums() {
-    int[] sums = new int[1 << n()];
+    int[] sums = new int[n() == 0 ? 0 : 1 << n()];
     for (int bits = 0; bits < sums.length; bits++) sums[bits] = bits % 2 == 1 ? -1 : sumOf(rowOfBits(bits));
     return sums;
   }

@@ -9,6 +9,7 @@ public final class PeaceTest {
     promise17OfLikeOnes();
     promise18();
     promise19();
+    ofNobody();
     promise20();
     promise21();
     promise22();
@@ -126,6 +127,31 @@ public final class PeaceTest {
     Check.text(x, "cost 0;let fixed=0;");
     x.force(1);
     check.due("19: by THE RULE", x.all(-1), 4);
+  }
+
+  /** With nobody there is no PERSON 0 to be in camp 0: no LEAST, and none of ALL. */
+  private static void ofNobody() {
+    TwoCamps x = new TwoCamps();
+    check.due("19: nobody, how many", x.all(-1), 0);
+    for (int i : new int[] {0, 1, -2, HIGH, LOW}) {
+      check.due("19: nobody, all(" + i + ")", x.all(i), -1);
+    }
+    check.due("20: nobody", x.together(0, 1), -2);
+    check.due("28: nobody", x.meet(0, 1, 0), TwoCamps.NO);
+    check.due("29: nobody", x.edge(0), TwoCamps.NO);
+    check.due("30: nobody", x.bring(0, 1), -2);
+    check.due("16: nobody", x.peace(), 0);
+    check.due("17: nobody", x.ring(-1), -1);
+    check.due("21: nobody", x.aside(), 0);
+    check.due("22: nobody", x.many(1), 0);
+    Check.text(x, "cost 1;let 0;");
+    x.force(1);
+    check.due("19: nobody, by another RULE", x.all(0), -1);
+    check.due("18: nobody, by another RULE", x.least(), -5);
+    x.person(0);
+    check.due("19: somebody came, how many", x.all(-1), 1);
+    check.due("19: somebody came", x.all(0), 0);
+    check.due("18: somebody came", x.least(), 0);
   }
 
   private static void promise20() {
