@@ -48,6 +48,10 @@ final class BoundariesOfPeace {
     peace(b, 2, 3, "a-b1;b-c1;c+a1;");
     peace(b, NONE, 9, CHAIN_OF_8 + "i-a1;");
     peace(b, NONE, 9, "g-h1;h-i1;i-g1;");
+    // whichever of a ring's FEELINGS was told first, it is the one that is WRONG
+    peace(b, NONE, 4, "c+d1;a+c1;a-d1;");
+    peace(b, NONE, 4, "a-d1;c+d1;a+c1;");
+    peace(b, NONE, 4, "a+c1;a-d1;c+d1;");
     // all nine against each other, and all nine for each other
     b.due("peace() of 36 hatreds", BoundariesOfPeople.all36(-1, 0).peace(), NONE);
     b.due("peace() of 36 likings", BoundariesOfPeople.all36(1, 1).peace(), 0);
@@ -313,6 +317,12 @@ final class BoundariesOfPeace {
       b.due("all(" + i + "), none can be", Check.told(3, NO_WAY).all(i), NONE);
     }
     b.due("all(1) of one", Check.people(1).all(1), NONE);
+    x.feel(0, 1, -1, 5, 1);
+    b.due("all(1), told anew", x.all(1), 6);
+    x.feel(1, 2, -1, 5, 1);
+    x.feel(0, 2, -1, 5, 1);
+    b.due("all(-1), told anew: none can be", x.all(-1), 0);
+    b.due("all(0), told anew: none can be", x.all(0), NONE);
     b.due("all(256) of nine without FEELINGS", Check.people(9).all(256), NONE);
   }
 

@@ -89,6 +89,10 @@ final class BoundariesOfTexts {
     b.says("Terms 2", "WORDS (a .. z),");
     faultAt(b, "^COST 1;let 1;", "cost ^Kin;let 1;", "cost kin^A;let 1;", "cost kin^_;let 1;", "cost kin^{;let 1;", "cost kin^`;let 1;",
         "cost kin^1;let 1;", "cost ^`;let 1;", "cost ^{;let 1;", "cost ^a;let 1;", "cost ^z;let 1;", "cost ^@;let 1;", "cost ^[;let 1;");
+    for (char letter = 'a'; letter <= 'z'; letter++) {
+      fault(b, "cost kin" + letter + ";let 1;", 5);
+      fault(b, "cost " + letter + "kin;let 1;", 5);
+    }
     b.says("Terms 2", "NUMBERS (as many digits as stand there, 4 at most),");
     String[] numbers = {"0", "9", "10", "99", "100", "999", "1000", "9999", "0000", "0001", "00"};
     for (String number : numbers) {
@@ -414,6 +418,15 @@ final class BoundariesOfTexts {
     b.due("text() of a LINE", Check.text(x, "a+b1;"), -100);
     b.due("text()", Check.text(x, "cost 2;let 0;"), 2);
     b.due("count(3)", x.count(3), 0);
+    // what was read ahead of a FAULT is gone, too
+    TwoCamps y = Check.told(2, "a+b50;");
+    for (int i = 0; i < 5; i++) {
+      b.due("text() with a FAULT behind 155 TOKENS", Check.text(y, "cost 1" + "+1".repeat(76) + "+?"), -259);
+    }
+    b.due("text()", Check.text(y, "cost 2*3+1;let strength<50;"), 1);
+    y.force(1);
+    b.due("felt(0, 6)", y.felt(0, 6), 7);
+    b.due("felt(0, 7)", y.felt(0, 7), 0);
     b.says("Promise 9", "-100 less the place of its FAULT.");
     b.due("text(), FAULT at 0", Check.text(x, "?"), -100);
     b.due("text(), FAULT at 159", Check.text(x, "cost 1" + " ".repeat(153) + "?"), -259);
