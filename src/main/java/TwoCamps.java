@@ -1622,11 +1622,15 @@ public final class TwoCamps {
             }
             // of the empty camps one will do: they differ in their names alone
             for (int camp = 0; camp < mostCamps && camp <= used; camp++) {
-                camps[person] = camp;
-                int more = costOfLast(person);
-                if (more != NONE) {
-                    spread(person + 1, Math.max(used, camp + 1), sum + more);
-                }
+                putInto(camp, person, used, sum);
+            }
+        }
+
+        private void putInto(int camp, int person, int used, int sum) {
+            camps[person] = camp;
+            int more = costOfLast(person);
+            if (more != NONE) {
+                spread(person + 1, Math.max(used, camp + 1), sum + more);
             }
         }
 

@@ -23,6 +23,7 @@ public final class LanguageTest {
     String bare = bare(text);
     words(bare);
     methods(bare);
+    loops(bare);
     check.end("LanguageTest");
   }
 
@@ -112,7 +113,6 @@ public final class LanguageTest {
     none("rule 3", Pattern.compile("\\b(Object|Map|HashMap|Set|var|Long|Stream|Optional)\\b"), bare.replace("Long.", ""));
     none("rule 4", Pattern.compile("\\b\\w+Exact\\b|String\\.format|\\bSystem\\.(?!arraycopy)\\w+"), bare);
     none("rule 5", Pattern.compile("\\bstatic\\s*\\{"), bare);
-    none("rule 9", Pattern.compile("\\bwhile *\\(true\\)|\\bfor *\\(;;"), bare);
     none("rule 13", Pattern.compile("\\b(Random|Thread|System\\.(nanoTime|currentTimeMillis|getenv))\\b"), bare);
     none("no package line", Pattern.compile("(?m)^package\\b"), bare);
     Matcher imports = Pattern.compile("(?m)^import ([\\w.*]+);").matcher(bare);
@@ -122,19 +122,39 @@ public final class LanguageTest {
   }
 
   private static void methods(String bare) {
+    Methods methods = new Methods(bare);
+    int heads = (int) Pattern.compile("(?m)^ *(public|private|static|final|\\w+)[^=;\\n]*\\) \\{$").matcher(bare).results()
+        .filter(head -> !head.group().matches(" *(if|for|switch|while|else|return)\\b.*")).count();
+    check.due("each method's head was found", methods.all.size(), heads);
+    for (Methods.Method method : methods.all) {
+      check.due("rule 11: some sixty lines, " + method, method.lines <= 60 ? 0 : method.lines, 0);
+      check.due("rule 11: eight deep, " + method, method.depth() <= 8 ? 0 : method.depth(), 0);
+      check.due("rule 12, README.md: only a constructor makes objects, " + method,
+          !method.isConstructor && method.body.matches("(?s).*\\bnew\\b.*") ? 1 : 0, 0);
+      recursion(method);
+    }
     String[] lines = bare.split("\n");
-    int from = -1;
     for (int i = 0; i < lines.length; i++) {
       String indent = lines[i].replaceAll("\\S.*", "");
-      boolean isHead = lines[i].matches("( {4}| {8})\\w[^=;]*\\) \\{") && !lines[i].contains(" class ");
-      if (isHead) {
-        from = i;
-      }
-      if (from >= 0 && lines[i].equals(lines[from].replaceAll("\\S.*", "") + "}")) {
-        check.due("rule 11: some sixty lines, from line " + (from + 1), i - from + 1 <= 60 ? 0 : i - from + 1, 0);
-        from = -1;
-      }
       check.due("line " + (i + 1) + " is not too long", lines[i].length() <= 120 && indent.length() <= 32 ? 0 : 1, 0);
+    }
+  }
+
+  private static void recursion(Methods.Method method) {
+    for (Methods.Method other : method.cycle()) {
+      check.due("rule 8: recursion of a method that is not private, " + other, other.modifiers.contains("private") ? 0 : 1, 0);
+    }
+    if (method.cycle().size() == 1) {
+      check.due("rule 8: a method that calls itself alone is static, " + method, method.modifiers.contains("static") ? 0 : 1, 0);
+    }
+  }
+
+  /** A loop's bound stands in its head: no while, no for without a condition. */
+  private static void loops(String bare) {
+    none("rule 9", Pattern.compile("\\b(while|do)\\b"), bare);
+    Matcher heads = Pattern.compile("\\bfor \\(([^;{]*);([^;{]*);").matcher(bare);
+    while (heads.find()) {
+      check.due("rule 9: for (" + heads.group(1) + ";" + heads.group(2) + ";", heads.group(2).matches(".*[<>].*") ? 0 : 1, 0);
     }
   }
 }
