@@ -47,7 +47,7 @@ public final class CiTest {
     Files.createDirectories(main.resolve(".ci"));
     Files.copy(Path.of(".ci", "run"), main.resolve(".ci/run"), StandardCopyOption.COPY_ATTRIBUTES);
     // from elsewhere: it finds its own way
-    Shell.Ran ran = Shell.run(room, "main/.ci/run");
+    Shell.Ran ran = Shell.run(room, "sh main/.ci/run");
     check.due(".ci/run, " + what + ": exit code", ran.code(), code);
     check.due(".ci/run, " + what + ", ends with \"" + last + "\"\n" + ran.printed(),
         ran.printed().endsWith(last.isEmpty() ? "\n" : "\n" + last + "\n") ? 1 : 0, 1);
